@@ -425,14 +425,14 @@ public final class BoltRow {
         growth.run();
         int fault = text.findOrderFault(built.bolts);
         int size = text.size;
-        text.size = 0;
-        if (fault >= 0) {
-            return -1 - fault;
-        }
         int breaking = growth.countOf(BREAKS);
         int same = 0;
         while (same < size && same < breaking && text.digitAt(same) == growth.brokenAs(same)) {
             same++;
+        }
+        text.size = 0;
+        if (fault >= 0) {
+            return -1 - fault;
         }
         told.size = 0;
         told.whole(same == size && same == breaking ? 1 : 0);
