@@ -860,15 +860,8 @@ public final class BoltRow {
             this.joint = joint;
         }
 
-        void solve() {
-            walk();
-            for (int i = 0; i < joint.bolts; i++) {
-                fill(i);
-            }
-        }
-
         /** From bolt to bolt with the slip of bolt 0 unknown; all forces together being the load tells it at the end. */
-        private void walk() {
+        void walk() {
             long m = 1;
             long x = 1;
             long p = 0;
@@ -902,14 +895,16 @@ public final class BoltRow {
             firstStart = -borneC;
         }
 
-        // The divisions leave nothing over: numbers over the determinant are whole.
-        private void fill(int i) {
-            long m = scale[i] > 0 ? scale[i] : 1;
-            slipRise[i] = (byFirst[i] * firstRise + byLoad[i] * under) / m;
-            slipStart[i] = (byFirst[i] * firstStart + bare[i] * under) / m;
-            int k = stretch[i];
-            forceRise[i] = k > 0 ? slipRise[i] / k : 0;
-            forceStart[i] = k > 0 ? (slipStart[i] - rest[i] * under) / k : 0;
+        /** What walk() has found, without the unknown; its divisions leave nothing over, as under is the determinant. */
+        void fill() {
+            for (int i = 0; i < joint.bolts; i++) {
+                long m = scale[i] > 0 ? scale[i] : 1;
+                slipRise[i] = (byFirst[i] * firstRise + byLoad[i] * under) / m;
+                slipStart[i] = (byFirst[i] * firstStart + bare[i] * under) / m;
+                int k = stretch[i];
+                forceRise[i] = k > 0 ? slipRise[i] / k : 0;
+                forceStart[i] = k > 0 ? (slipStart[i] - rest[i] * under) / k : 0;
+            }
         }
 
         /** Over of the force at a load; its under is ours times that of the load. */
@@ -1093,7 +1088,8 @@ public final class BoltRow {
             for (int i = 0; i < joint.bolts; i++) {
                 layLine(i);
             }
-            lines.solve();
+            lines.walk();
+            lines.fill();
             soonUnder = 0;
             for (int i = 0; i < joint.bolts; i++) {
                 seekDue(i, breaking);
@@ -1293,7 +1289,8 @@ public final class BoltRow {
                 growth.lines.stretch[i] = (holding >> i & 1) == 1 ? joint.give[i] : 0;
                 growth.lines.rest[i] = sets[i];
             }
-            growth.lines.solve();
+            growth.lines.walk();
+            growth.lines.fill();
         }
     }
 

@@ -47,6 +47,8 @@ public final class Promises {
         row();
         rowStays();
         asksChangeNothing();
+        eachChangeCounts();
+        fiveBolts();
         System.out.println("Promises: " + checked + " checked, " + wrong + " wrong");
         if (wrong != 0) {
             System.exit(1);
@@ -398,6 +400,12 @@ public final class Promises {
         jointDue("2259300931/2" + one + "/", -22);
         BoltRow x = stiff();
         x.takes(0, true);
+        for (String bad : new String[] {five + "/", "22593004", "x", ""}) {
+            write(x, bad);
+            due("joint() of " + bad, x.joint(), -1 - Math.max(0, bad.length() - 1));
+        }
+        write(x, "11" + "10010102" + "/1" + "10010102");
+        due("joint() behind others", x.joint(), 2);
         write(x, "2159300931/2" + one);
         due("joint()", x.joint(), 2);
         int[] want = {5, 9, 30, 9, 31, 0, 2};
@@ -755,6 +763,10 @@ public final class Promises {
         told(y, "order()", y.order(), 2, 0, 1);
         BoltRow z = twins(0, 0);
         told(z, "order(), of several the first", z.order(), 2, 0, 1);
+        // at p 30 the two others have 15 then: just their break is enough
+        BoltRow exact = made(0, 0, v(1, 0, 9, 1, 10), v(1, 0, 13, 1, 15), v(1, 0, 13, 1, 15));
+        told(exact, "order(), of equal ones the first", exact.order(), 3, 0, 1, 2);
+        told(exact, "peak(), not below their break", exact.peak(), 3, 30, 1);
         BoltRow none = new BoltRow();
         told(none, "order(), none", none.order(), 0);
     }
@@ -874,6 +886,15 @@ public final class Promises {
         z.takes(0, true);
         z.takes(2, true);
         told(z, "arranges(), all out", z.arranges(), 0, 0, 1, 2, 0, 1);
+        // forces are as 13, 5, 2, 1: only one order has all break at once, at the sum of all breaks
+        BoltRow four = made(1, 0, v(1, 0, 7, 1, 8), v(1, 0, 3, 1, 4), v(1, 0, 30, 1, 52), v(1, 0, 19, 1, 20));
+        told(four, "arranges()", four.arranges(), 1, 2, 3, 0, 1, 84, 1);
+        four = made(1, 0, v(1, 0, 3, 1, 4), v(1, 0, 7, 1, 8), v(1, 0, 19, 1, 20), v(1, 0, 30, 1, 52));
+        told(four, "arranges(), the last order", four.arranges(), 1, 3, 2, 1, 0, 84, 1);
+        // as 21, 8, 3, 1, 1, since there are no pitches between the last two
+        BoltRow all = made(1, 0, v(1, 0, 5, 1, 6), v(1, 0, 1, 1, 2), v(1, 0, 15, 1, 16), v(1, 0, 1, 1, 2), v(1, 0, 30, 1, 42));
+        all.pitch(3, 0);
+        told(all, "arranges(), five", all.arranges(), 1, 4, 2, 0, 1, 3, 68, 1);
         BoltRow five = made(1, 1, v(1, 0, 1, 1, 2), v(1, 0, 1, 1, 2), v(1, 0, 1, 1, 2), v(1, 0, 1, 1, 2), v(1, 0, 1, 1, 2));
         due("arranges(), five alike", five.arranges(), 0);
     }
@@ -887,6 +908,8 @@ public final class Promises {
         told(x, "fits(38)", x.fits(38), 4, 38, 1);
         told(x, "fits(40)", x.fits(40), 2, 40, 1);
         due("fits(41)", x.fits(41), -2);
+        BoltRow y = twins(5, 0);
+        told(y, "fits(40)", y.fits(40), 0, 40, 1);
         due("fits(300)", x.fits(300), -2);
         due("fits(301)", x.fits(301), -1);
         due("fits(-1)", x.fits(-1), -1);
@@ -1004,6 +1027,65 @@ public final class Promises {
         x.clears();
         x.arranges();
         rowIs(x, "calls that do not tell", 17, 2);
+    }
+
+    /** What is asked behind a change is answered for what is built then. */
+    private static void eachChangeCounts() {
+        promise = "2 to 11";
+        BoltRow x = new BoltRow();
+        told(x, "peak()", x.peak(), 0, 0, 1);
+        x.bolt(1, 0, 10, 1, 20);
+        told(x, "peak() behind bolt()", x.peak(), 1, 20, 1);
+        x.bolt(1, 0, 10, 1, 20);
+        told(x, "peak() behind bolt()", x.peak(), 2, 40, 1);
+        // f0 less f1 is w times f1, less w times f0
+        x.plates(1, 0);
+        told(x, "peak() behind plates()", x.peak(), 2, 30, 1);
+        x.pitch(0, 2);
+        told(x, "peak() behind pitch()", x.peak(), 2, 80, 3);
+        x.alters(1, 1, 0, 10, 1, 60);
+        told(x, "peak() behind alters()", x.peak(), 1, 60, 1);
+        x.swaps(0, 1);
+        told(x, "peak() behind swaps()", x.peak(), 2, 80, 1);
+        x.takes(0, true);
+        told(x, "peak() behind takes()", x.peak(), 1, 20, 1);
+        write(x, "0010010102");
+        x.joint();
+        told(x, "peak() behind joint()", x.peak(), 1, 2, 1);
+        x.clears();
+        told(x, "peak() behind clears()", x.peak(), 0, 0, 1);
+    }
+
+    /** Stiff plates and five bolts alike: each has a fifth of what all have. */
+    private static void fiveBolts() {
+        promise = "13 to 36";
+        int[] b = v(1, 2, 10, 2, 20);
+        BoltRow x = made(0, 0, b, b, b, b, b);
+        for (int i = 0; i < 5; i++) {
+            told(x, "force(52, i)", x.force(52, i), 0, 52, 5);
+            told(x, "slip(52, i)", x.slip(52, i), 0, 64, 5);
+            told(x, "set(52, i)", x.set(52, i), 0, 12, 5);
+            told(x, "falls(52, 26, i)", x.falls(52, 26, i), 0, 26, 5, 38, 5);
+            due("state(52, i)", x.state(52, i), 2);
+            told(x, "when(2, i)", x.when(2, i), 0, 100, 1);
+            told(x, "without(i)", x.without(i), 0, 80, 1);
+            told(x, "tunes(i)", x.tunes(i), 2, 100, 1);
+        }
+        told(x, "bears(52, 3)", x.bears(52, 3), 0, 52, 5, 208, 5);
+        told(x, "stretch(52)", x.stretch(52), 0, 64, 5);
+        told(x, "idle(0)", x.idle(0), 31, 0);
+        told(x, "hardest(52)", x.hardest(52), 0, 200, 5);
+        told(x, "margin(52)", x.margin(52), 0, 48, 1, 2, 0);
+        told(x, "work(52)", x.work(52), 0, 2908, 5, 0, 1);
+        told(x, "opens(52)", x.opens(52), 0, 0, 1);
+        told(x, "events()", x.events(), 15, 5, 5, 5);
+        told(x, "peak()", x.peak(), 5, 100, 1);
+        told(x, "order()", x.order(), 5, 0, 1, 2, 3, 4);
+        told(x, "sheds(0)", x.sheds(0), 1, 1, 0, 5, 5, 5, 5);
+        told(x, "sheds(3)", x.sheds(3), 4, 1, 0, 0, 0, 0, 50);
+        told(x, "arranges()", x.arranges(), 0, 0, 1, 2, 3, 4, 100, 1);
+        told(x, "fits(100)", x.fits(100), 9, 100, 1);
+        due("chance(1, 1, 101)", x.chance(1, 1, 101), 0);
     }
 
     private static void asksChangeNothing() {
