@@ -220,14 +220,13 @@ public final class BoltRow {
     }
 
     public int state(int p, int i) {
-        int answer = come(p, built.has(i));
-        if (answer == NONE) {
+        if (come(p, built.has(i)) == NONE) {
             return NONE;
         }
         if (built.out[i]) {
             return OUT;
         }
-        if (answer == GONE || (growth.leftAfter(p) >> i & 1) == 0) {
+        if ((growth.leftAfter(p) >> i & 1) == 0) {
             return BROKEN;
         }
         long over = growth.lines.forceAt(i, p, 1);
@@ -238,14 +237,13 @@ public final class BoltRow {
     }
 
     public int idle(int p) {
-        int answer = come(p, true);
-        if (answer == NONE) {
+        if (come(p, true) == NONE) {
             return NONE;
         }
         int left = growth.leftAfter(p);
         told.size = 0;
         told.whole(built.soundBits() & ~left);
-        return answer == GONE ? 0 : left & ~bearingAt(p);
+        return left & ~bearingAt(p);
     }
 
     public int hardest(int p) {

@@ -725,6 +725,13 @@ public final class Promises {
         eventIs(s, 6, 1, 2, 9, 1);
         eventIs(s, 7, 2, 2, 9, 1);
         eventIs(s, 8, 2, 1, 9, 1);
+        // behind the first break bolt 1 has just its break, bolt 2 just its yield: the break is next, it does not go on yet
+        BoltRow r = made(0, 0, v(1, 0, 9, 1, 10), v(1, 0, 13, 1, 15), v(1, 0, 15, 1, 40));
+        eventIs(r, 4, 2, 0, 30, 1);
+        eventIs(r, 5, 1, 1, 30, 1);
+        eventIs(r, 6, 2, 1, 30, 1);
+        eventIs(r, 7, 1, 2, 30, 1);
+        eventIs(r, 8, 2, 2, 40, 1);
         // it breaks ahead of that: both begin and yield by it
         s.alters(0, 1, 0, 7, 1, 8);
         eventIs(s, 1, 1, 0, 7, 1);
