@@ -1,11 +1,5 @@
-import java.util.NoSuchElementException;
-
 /** Each promise of the document by numbers worked out by hand: ordinary ones, edges, wrong ones. */
-public final class Promises {
-    private static int wrong = 0;
-    private static int checked = 0;
-    private static String promise = "";
-
+public final class Promises extends Checks {
     public static void main(String[] args) {
         newObject();
         bolt();
@@ -49,121 +43,14 @@ public final class Promises {
         asksChangeNothing();
         eachChangeCounts();
         fiveBolts();
-        System.out.println("Promises: " + checked + " checked, " + wrong + " wrong");
-        if (wrong != 0) {
-            System.exit(1);
-        }
-    }
-
-    // ---- what the checks are made of
-
-    private static void due(String call, long got, long want) {
-        checked++;
-        if (got != want) {
-            wrong++;
-            System.out.println("promise " + promise + ": " + call + " answered " + got + ", due is " + want);
-        }
-    }
-
-    private static void due(String call, boolean got, boolean want) {
-        due(call, got ? 1 : 0, want ? 1 : 0);
-    }
-
-    /** The answer and the whole row behind it. */
-    private static void told(BoltRow x, String call, long got, long want, long... row) {
-        due(call, got, want);
-        rowIs(x, call, row);
-    }
-
-    private static void rowIs(BoltRow x, String call, long... row) {
-        due("count(5) behind " + call, x.count(5), row.length);
-        for (int i = 0; i < row.length && i < x.count(5); i++) {
-            due("row(" + i + ") behind " + call, x.row(i), row[i]);
-        }
-    }
-
-    private static boolean partThrows(BoltRow x, int i, int what) {
-        try {
-            x.part(i, what);
-            return false;
-        } catch (NoSuchElementException e) {
-            return true;
-        }
-    }
-
-    private static boolean rowThrows(BoltRow x, int i) {
-        try {
-            x.row(i);
-            return false;
-        } catch (NoSuchElementException e) {
-            return true;
-        }
-    }
-
-    private static void write(BoltRow x, String s) {
-        x.end(0);
-        for (int k = 0; k < s.length(); k += 4) {
-            int v = 0;
-            for (int j = 0; j < 4; j++) {
-                v = v << 8 | (k + j < s.length() ? s.charAt(k + j) : 0);
-            }
-            x.sign(v);
-        }
-        x.end(s.length());
-    }
-
-    private static BoltRow made(int a, int b, int[]... bolts) {
-        BoltRow x = new BoltRow();
-        x.plates(a, b);
-        for (int[] v : bolts) {
-            x.bolt(v[0], v[1], v[2], v[3], v[4]);
-        }
-        return x;
-    }
-
-    private static int[] v(int... numbers) {
-        return numbers;
-    }
-
-    /**
-     * Plates give nothing, so both bolts have one slip d. Bolt 0: d till 10, then 10 and half of what d is above 10.
-     * Bolt 1: d - 3 from 3 on; it breaks at 6, so at d 9, p 15. Bolt 0 has 15 then, and breaks at 20.
-     */
-    private static BoltRow stiff() {
-        return made(0, 0, v(1, 0, 10, 2, 20), v(1, 3, 5, 1, 6));
-    }
-
-    /** Plates give nothing, all bolts have a third of p till 30; then the three break one behind another. */
-    private static BoltRow zip() {
-        return made(0, 0, v(1, 0, 9, 1, 10), v(1, 0, 13, 1, 14), v(1, 0, 12, 1, 13));
-    }
-
-    /** The middle one is out: slip 0 is f0, slip 2 is f2, both gaps bear f0 below. */
-    private static BoltRow chain(int a, int b) {
-        BoltRow x = made(a, b, v(1, 0, 10, 1, 20), v(1, 0, 10, 1, 20), v(1, 0, 10, 1, 20));
-        x.takes(1, true);
-        return x;
-    }
-
-    /** At p 28 both slips are 16: bolt 0 has 12, 2 above its yield, so its set is 4; bolt 1 has 16, none. */
-    private static BoltRow worn() {
-        return made(0, 0, v(1, 0, 10, 3, 30), v(1, 0, 20, 1, 30));
-    }
-
-    /** Forces are as 6 to 3 to 2; bolt 0 breaks at 7, p 77/6; then the others have 77/10 and 77/15. */
-    private static BoltRow thirds() {
-        return made(0, 0, v(1, 0, 6, 1, 7), v(2, 0, 30, 2, 60), v(3, 0, 30, 3, 60));
-    }
-
-    /** Peak is 40 less what the clears are apart. */
-    private static BoltRow twins(int c0, int c1) {
-        return made(0, 0, v(1, c0, 10, 1, 20), v(1, c1, 10, 1, 20));
+        unlike();
+        finish("Promises");
     }
 
     // ---- the promises
 
     private static void newObject() {
-        promise = "1";
+        place = "promise 1";
         BoltRow x = new BoltRow();
         due("count(0)", x.count(0), 0);
         due("count(1)", x.count(1), 0);
@@ -176,7 +63,7 @@ public final class Promises {
     }
 
     private static void bolt() {
-        promise = "2";
+        place = "promise 2";
         BoltRow x = new BoltRow();
         int[][] bad = {
             v(0, 0, 1, 1, 2), v(6, 0, 1, 6, 2), v(1, -1, 1, 1, 2), v(1, 10, 1, 1, 2), v(1, 0, 0, 1, 2),
@@ -199,7 +86,7 @@ public final class Promises {
     }
 
     private static void plates() {
-        promise = "3";
+        place = "promise 3";
         BoltRow x = new BoltRow();
         due("plates(1, 1)", x.plates(1, 1), -2);
         due("plates(2, 0)", x.plates(2, 0), 11);
@@ -220,7 +107,7 @@ public final class Promises {
     }
 
     private static void pitch() {
-        promise = "4";
+        place = "promise 4";
         BoltRow x = twins(0, 0);
         due("pitch(0, 1)", x.pitch(0, 1), -2);
         due("pitch(0, 2)", x.pitch(0, 2), 1);
@@ -240,7 +127,7 @@ public final class Promises {
     }
 
     private static void alters() {
-        promise = "5";
+        place = "promise 5";
         BoltRow x = stiff();
         due("alters, as it is", x.alters(0, 1, 0, 10, 2, 20), -2);
         due("alters, one", x.alters(0, 1, 0, 10, 2, 21), 1);
@@ -260,7 +147,7 @@ public final class Promises {
     }
 
     private static void takes() {
-        promise = "6";
+        place = "promise 6";
         BoltRow x = stiff();
         due("takes(0, false)", x.takes(0, false), -2);
         due("takes(0, true)", x.takes(0, true), 1);
@@ -275,7 +162,7 @@ public final class Promises {
     }
 
     private static void swaps() {
-        promise = "7";
+        place = "promise 7";
         BoltRow x = stiff();
         x.pitch(0, 2);
         x.takes(1, true);
@@ -294,7 +181,7 @@ public final class Promises {
     }
 
     private static void clears() {
-        promise = "8";
+        place = "promise 8";
         BoltRow x = made(2, 0, v(1, 0, 10, 1, 20), v(1, 0, 10, 1, 20));
         x.takes(1, true);
         x.pitch(0, 2);
@@ -311,7 +198,7 @@ public final class Promises {
     }
 
     private static void sign() {
-        promise = "9";
+        place = "promise 9";
         BoltRow x = stiff();
         due("sign", x.sign(0x31300000), 4);
         x.end(2);
@@ -333,7 +220,7 @@ public final class Promises {
     }
 
     private static void end() {
-        promise = "10";
+        place = "promise 10";
         BoltRow x = new BoltRow();
         due("end(0)", x.end(0), true);
         due("end(1)", x.end(1), false);
@@ -361,7 +248,7 @@ public final class Promises {
     }
 
     private static void joint() {
-        promise = "11";
+        place = "promise 11";
         String one = "10100120";
         jointDue("11" + one, 1);
         jointDue("00" + one + "/0" + one, 2);
@@ -420,7 +307,7 @@ public final class Promises {
     }
 
     private static void part() {
-        promise = "12";
+        place = "promise 12";
         BoltRow x = made(1, 1, v(1, 2, 3, 4, 5), v(2, 3, 4, 5, 6));
         x.pitch(0, 2);
         x.takes(1, true);
@@ -438,7 +325,7 @@ public final class Promises {
     }
 
     private static void force() {
-        promise = "13";
+        place = "promise 13";
         BoltRow x = stiff();
         told(x, "force(0, 0)", x.force(0, 0), 0, 0, 1);
         told(x, "force(3, 0)", x.force(3, 0), 0, 3, 1);
@@ -462,7 +349,7 @@ public final class Promises {
     }
 
     private static void slip() {
-        promise = "14";
+        place = "promise 14";
         BoltRow x = stiff();
         told(x, "slip(0, 1)", x.slip(0, 1), 0, 0, 1);
         told(x, "slip(5, 0)", x.slip(5, 0), 0, 4, 1);
@@ -483,7 +370,7 @@ public final class Promises {
     }
 
     private static void bears() {
-        promise = "15";
+        place = "promise 15";
         BoltRow x = chain(1, 0);
         told(x, "bears(8, 0)", x.bears(8, 0), 0, 2, 1, 6, 1);
         told(x, "bears(8, 1)", x.bears(8, 1), 0, 2, 1, 6, 1);
@@ -500,7 +387,7 @@ public final class Promises {
     }
 
     private static void stretch() {
-        promise = "16";
+        place = "promise 16";
         BoltRow x = chain(1, 0);
         told(x, "stretch(8)", x.stretch(8), 0, 6, 1);
         BoltRow y = chain(0, 1);
@@ -517,7 +404,7 @@ public final class Promises {
     }
 
     private static void state() {
-        promise = "17";
+        place = "promise 17";
         BoltRow x = stiff();
         due("state(0, 0)", x.state(0, 0), 0);
         due("state(1, 0)", x.state(1, 0), 1);
@@ -542,7 +429,7 @@ public final class Promises {
     }
 
     private static void idle() {
-        promise = "18";
+        place = "promise 18";
         BoltRow x = stiff();
         told(x, "idle(0)", x.idle(0), 3, 0);
         told(x, "idle(3)", x.idle(3), 2, 0);
@@ -559,7 +446,7 @@ public final class Promises {
     }
 
     private static void hardest() {
-        promise = "19";
+        place = "promise 19";
         BoltRow x = stiff();
         told(x, "hardest(5)", x.hardest(5), 0, 800, 2);
         told(x, "hardest(14)", x.hardest(14), 0, 607, 2);
@@ -577,7 +464,7 @@ public final class Promises {
     }
 
     private static void margin() {
-        promise = "20";
+        place = "promise 20";
         BoltRow x = stiff();
         told(x, "margin(0)", x.margin(0), 0, 3, 1, 0, 1);
         told(x, "margin(3)", x.margin(3), 0, 10, 1, 1, 1);
@@ -593,7 +480,7 @@ public final class Promises {
     }
 
     private static void work() {
-        promise = "21";
+        place = "promise 21";
         BoltRow x = stiff();
         told(x, "work(5)", x.work(5), 0, 17, 1, 0, 1);
         told(x, "work(14)", x.work(14), 0, 205, 2, 0, 1);
@@ -611,7 +498,7 @@ public final class Promises {
     }
 
     private static void set() {
-        promise = "22";
+        place = "promise 22";
         BoltRow x = worn();
         told(x, "set(28, 0)", x.set(28, 0), 0, 4, 1);
         told(x, "set(28, 1)", x.set(28, 1), 0, 0, 1);
@@ -631,7 +518,7 @@ public final class Promises {
     }
 
     private static void falls() {
-        promise = "23";
+        place = "promise 23";
         BoltRow x = worn();
         told(x, "falls(28, 28, 0)", x.falls(28, 28, 0), 0, 12, 1, 16, 1);
         told(x, "falls(28, 27, 0), whatever force is", x.falls(28, 27, 0), 0, 23, 2, 31, 2);
@@ -656,7 +543,7 @@ public final class Promises {
     }
 
     private static void opens() {
-        promise = "24";
+        place = "promise 24";
         BoltRow x = worn();
         told(x, "opens(28)", x.opens(28), 0, 4, 1);
         told(x, "opens(10), of several the first", x.opens(10), 0, 0, 1);
@@ -677,7 +564,7 @@ public final class Promises {
     }
 
     private static void events() {
-        promise = "25";
+        place = "promise 25";
         BoltRow x = stiff();
         told(x, "events()", x.events(), 6, 2, 2, 2);
         x.takes(0, true);
@@ -687,7 +574,7 @@ public final class Promises {
     }
 
     private static void event() {
-        promise = "26";
+        place = "promise 26";
         BoltRow x = stiff();
         eventIs(x, 0, 0, 0, 0, 1);
         eventIs(x, 1, 0, 1, 3, 1);
@@ -745,7 +632,7 @@ public final class Promises {
     }
 
     private static void peak() {
-        promise = "27";
+        place = "promise 27";
         BoltRow x = stiff();
         told(x, "peak()", x.peak(), 1, 20, 1);
         x.alters(0, 1, 0, 10, 2, 14);
@@ -761,7 +648,7 @@ public final class Promises {
     }
 
     private static void order() {
-        promise = "28";
+        place = "promise 28";
         BoltRow x = stiff();
         told(x, "order()", x.order(), 2, 1, 0);
         BoltRow y = zip();
@@ -779,7 +666,7 @@ public final class Promises {
     }
 
     private static void when() {
-        promise = "29";
+        place = "promise 29";
         BoltRow x = stiff();
         told(x, "when(0, 0)", x.when(0, 0), 0, 0, 1);
         told(x, "when(0, 1)", x.when(0, 1), 0, 3, 1);
@@ -797,7 +684,7 @@ public final class Promises {
     }
 
     private static void sheds() {
-        promise = "30";
+        place = "promise 30";
         BoltRow x = stiff();
         told(x, "sheds(1)", x.sheds(1), 0, 1, 6, 0);
         due("sheds(0), none left", x.sheds(0), -2);
@@ -825,7 +712,7 @@ public final class Promises {
     }
 
     private static void replays() {
-        promise = "31";
+        place = "promise 31";
         BoltRow x = zip();
         replayDue(x, "021", 3, 1);
         replayDue(x, "02", 2, 0);
@@ -847,7 +734,7 @@ public final class Promises {
     }
 
     private static void without() {
-        promise = "32";
+        place = "promise 32";
         BoltRow x = stiff();
         told(x, "without(0)", x.without(0), 0, 6, 1);
         told(x, "without(1)", x.without(1), 1, 20, 1);
@@ -860,7 +747,7 @@ public final class Promises {
     }
 
     private static void tunes() {
-        promise = "33";
+        place = "promise 33";
         BoltRow x = twins(3, 9);
         told(x, "tunes(1)", x.tunes(1), 3, 40, 1);
         told(x, "tunes(0)", x.tunes(0), 9, 40, 1);
@@ -872,10 +759,13 @@ public final class Promises {
         told(x, "tunes(0), of equal ones the least", x.tunes(0), 0, 20, 1);
         x.takes(0, true);
         told(x, "tunes(0), all out", x.tunes(0), 0, 0, 1);
+        // f1 less f0 is half of clear 0: 20 and 49/2 is the most, and the other one breaks by it
+        BoltRow y = made(1, 1, v(1, 0, 10, 1, 20), v(1, 0, 10, 1, 30));
+        told(y, "tunes(0)", y.tunes(0), 9, 89, 2);
     }
 
     private static void arranges() {
-        promise = "34";
+        place = "promise 34";
         // at one end a bolt has three times what it has at the other: 60 and 20 are right
         BoltRow x = made(2, 0, v(1, 0, 10, 1, 20), v(1, 0, 10, 1, 60));
         told(x, "arranges()", x.arranges(), 1, 1, 0, 80, 1);
@@ -904,10 +794,14 @@ public final class Promises {
         told(all, "arranges(), five", all.arranges(), 1, 4, 2, 0, 1, 3, 68, 1);
         BoltRow five = made(1, 1, v(1, 0, 1, 1, 2), v(1, 0, 1, 1, 2), v(1, 0, 1, 1, 2), v(1, 0, 1, 1, 2), v(1, 0, 1, 1, 2));
         due("arranges(), five alike", five.arranges(), 0);
+        // from the last place to the first forces are as 1, 6/5, 41/25, 301/125, 2286/625; the last bolt breaks at 16
+        BoltRow last = made(1, 0, v(5, 0, 15, 5, 16), v(5, 0, 15, 5, 20), v(5, 0, 15, 5, 27), v(5, 0, 15, 5, 40),
+            v(5, 0, 15, 5, 60));
+        told(last, "arranges(), the last order of five", last.arranges(), 1, 4, 3, 2, 1, 0, 99056, 625);
     }
 
     private static void fits() {
-        promise = "35";
+        place = "promise 35";
         BoltRow x = twins(2, 7);
         told(x, "fits(0)", x.fits(0), 9, 35, 1);
         told(x, "fits(35)", x.fits(35), 9, 35, 1);
@@ -929,7 +823,7 @@ public final class Promises {
     }
 
     private static void chance() {
-        promise = "36";
+        place = "promise 36";
         BoltRow x = twins(0, 0);
         // draws of seed 1: 8 6 3 3 9 5 8 7 0 6; of seed -3: 1 8 0 3 2 8 7 0 0 1
         told(x, "chance(1, 5, 38)", x.chance(1, 5, 38), 3, 34, 1);
@@ -939,6 +833,12 @@ public final class Promises {
         told(x, "chance(1, 5, 0)", x.chance(1, 5, 0), 5, 34, 1);
         told(x, "chance(1, 5, 300)", x.chance(1, 5, 300), 0, 34, 1);
         due("chance(1, 40, 0)", x.chance(1, 40, 0), 40);
+        // what the clears are apart takes half as much then; seed 1 ends the fourth time with 8 and 7
+        x.plates(1, 1);
+        told(x, "chance(1, 4, 40)", x.chance(1, 4, 40), 1, 38, 1);
+        told(x, "chance(-3, 1, 37)", x.chance(-3, 1, 37), 0, 73, 2);
+        told(x, "chance(-3, 2, 36)", x.chance(-3, 2, 36), 2, 73, 2);
+        x.plates(0, 0);
         due("chance(1, 41, 0)", x.chance(1, 41, 0), -1);
         due("chance(1, 0, 0)", x.chance(1, 0, 0), -1);
         due("chance(1, 1, 301)", x.chance(1, 1, 301), -1);
@@ -954,7 +854,7 @@ public final class Promises {
     }
 
     private static void count() {
-        promise = "37";
+        place = "promise 37";
         BoltRow x = stiff();
         x.plates(2, 1);
         x.takes(0, true);
@@ -977,7 +877,7 @@ public final class Promises {
     }
 
     private static void row() {
-        promise = "38";
+        place = "promise 38";
         BoltRow x = stiff();
         due("row(0) throws", rowThrows(x, 0), true);
         x.force(14, 0);
@@ -994,7 +894,7 @@ public final class Promises {
 
     /** Refused calls, answers below 0 and calls that tell nothing leave the row as it is. */
     private static void rowStays() {
-        promise = "terms 2";
+        place = "terms 2";
         BoltRow x = stiff();
         x.force(14, 0);
         x.force(20, 0);
@@ -1038,7 +938,7 @@ public final class Promises {
 
     /** What is asked behind a change is answered for what is built then. */
     private static void eachChangeCounts() {
-        promise = "2 to 11";
+        place = "promises 2 to 11";
         BoltRow x = new BoltRow();
         told(x, "peak()", x.peak(), 0, 0, 1);
         x.bolt(1, 0, 10, 1, 20);
@@ -1065,7 +965,7 @@ public final class Promises {
 
     /** Stiff plates and five bolts alike: each has a fifth of what all have. */
     private static void fiveBolts() {
-        promise = "13 to 36";
+        place = "promises 13 to 36";
         int[] b = v(1, 2, 10, 2, 20);
         BoltRow x = made(0, 0, b, b, b, b, b);
         for (int i = 0; i < 5; i++) {
@@ -1096,7 +996,7 @@ public final class Promises {
     }
 
     private static void asksChangeNothing() {
-        promise = "terms 2";
+        place = "terms 2";
         BoltRow x = made(2, 1, v(1, 4, 5, 6, 20), v(2, 3, 9, 4, 30), v(3, 1, 7, 5, 25));
         x.takes(2, true);
         x.pitch(1, 2);
@@ -1122,5 +1022,37 @@ public final class Promises {
         }
         due("count(6)", x.count(6), 4);
         told(x, "peak()", x.peak(), x.peak(), over, under);
+    }
+
+    /**
+     * Bolts, pitches and plates all unlike. At p 11 forces are 6, 1, 4, slips 13, 5, 4: 8 is twice (twice 5 less 6),
+     * 1 is twice 4 less 7. Bolt 0 is 1 above its yield then, so its set is 1.
+     */
+    private static void unlike() {
+        place = "promises 13 to 29";
+        BoltRow x = made(2, 1, v(2, 0, 5, 3, 20), v(3, 2, 10, 4, 20), v(1, 0, 10, 2, 20));
+        x.pitch(0, 2);
+        long[][] want = {{6, 13}, {1, 5}, {4, 4}};
+        for (int i = 0; i < 3; i++) {
+            told(x, "force(11, " + i + ")", x.force(11, i), 0, want[i][0], 1);
+            told(x, "slip(11, " + i + ")", x.slip(11, i), 0, want[i][1], 1);
+        }
+        told(x, "bears(11, 0)", x.bears(11, 0), 0, 5, 1, 6, 1);
+        told(x, "bears(11, 1)", x.bears(11, 1), 0, 4, 1, 7, 1);
+        told(x, "stretch(11)", x.stretch(11), 0, 32, 1);
+        told(x, "hardest(11)", x.hardest(11), 0, 545, 3);
+        told(x, "work(11)", x.work(11), 0, 102, 1, 253, 1);
+        told(x, "set(11, 0)", x.set(11, 0), 0, 1, 1);
+        told(x, "set(11, 1)", x.set(11, 1), 0, 2, 1);
+        told(x, "falls(11, 5, 0)", x.falls(11, 5, 0), 0, 93, 34, 110, 17);
+        told(x, "falls(11, 5, 1)", x.falls(11, 5, 1), 0, 5, 17, 49, 17);
+        told(x, "falls(11, 5, 2)", x.falls(11, 5, 2), 0, 67, 34, 67, 34);
+        told(x, "opens(11)", x.opens(11), 1, 5, 2);
+        told(x, "falls(11, 2, 0)", x.falls(11, 2, 0), 0, 13, 12, 19, 6);
+        told(x, "falls(11, 2, 1)", x.falls(11, 2, 1), 0, 0, 1, 5, 3);
+        told(x, "falls(11, 2, 2)", x.falls(11, 2, 2), 0, 11, 12, 11, 12);
+        told(x, "when(0, 1)", x.when(0, 1), 0, 3, 1);
+        told(x, "when(1, 0)", x.when(1, 0), 0, 332, 37);
+        told(x, "margin(3)", x.margin(3), 0, 221, 37, 1, 0);
     }
 }
