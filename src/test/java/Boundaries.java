@@ -1,7 +1,5 @@
 import java.nio.file.Files;
 import java.nio.file.Path;
-import java.util.ArrayList;
-import java.util.List;
 
 /**
  * Each sentence of the document that names a boundary case by a test of its own: what is just within, what is just
@@ -33,7 +31,8 @@ public final class Boundaries extends Checks {
     }
 
     public static void main(String[] args) throws Exception {
-        document = Files.readString(Path.of("../shared/DOC.md")).replaceAll("\\s+", " ");
+        Path shared = Path.of("../shared/DOC.md");
+        document = Files.exists(shared) ? Files.readString(shared).replaceAll("\\s+", " ") : null;
         life();
         numbersOfBolts();
         plateNumbers();
@@ -68,11 +67,20 @@ public final class Boundaries extends Checks {
         closeSentence();
         sentences++;
         place = heading + ", \"" + sentence + "\"";
-        int from = document.indexOf("## " + heading + (heading.startsWith("Promise") ? ":" : " "));
-        int to = from < 0 ? -1 : document.indexOf(" ## ", from);
-        String section = from < 0 ? "" : document.substring(from, to < 0 ? document.length() : to);
-        due("its standing in the document", section.contains(sentence), true);
+        // The class can be tested where the document is not at hand, too.
+        if (document != null) {
+            due("its standing in the document", section(heading).contains(sentence), true);
+        }
         checkedBefore = checked;
+    }
+
+    private static String section(String heading) {
+        int from = document.indexOf("## " + heading + (heading.startsWith("Promise") ? ":" : " "));
+        if (from < 0) {
+            return "";
+        }
+        int to = document.indexOf(" ## ", from);
+        return document.substring(from, to < 0 ? document.length() : to);
     }
 
     private static void closeSentence() {
@@ -1222,10 +1230,7 @@ public final class Boundaries extends Checks {
         stays(stiff(), "opens(0)", y -> y.opens(0), -3);
         stays(full(), "opens(0)", y -> y.opens(0), -3);
         told(x, "opens(1)", x.opens(1), 0, 0, 1);
-        peakEdge("opens", stiff(), (y, p) -> y.opens(p), 20);
-        peakEdge("opens", late(), (y, p) -> y.opens(p), 38);
-        peakEdge("opens", full(), (y, p) -> y.opens(p), 300);
-        peakEdge("opens", allOut(), (y, p) -> y.opens(p), 0);
+        asForce("opens", (y, p) -> y.opens(p));
         noLoad("opens", (y, p) -> y.opens(p));
         noBolts("opens", (y, p) -> y.opens(p));
     }
