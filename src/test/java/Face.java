@@ -20,6 +20,7 @@ public final class Face {
         "int slip(int,int)", "int state(int,int)", "int stretch(int)", "boolean swaps(int,int)", "int takes(int,boolean)",
         "int tunes(int)", "int when(int,int)", "int without(int)", "int work(int)",
     };
+    private static final String THROWN = "[class java.util.NoSuchElementException]";
     private static final String[] NEVER = {
         "catch", "finally", "synchronized", "assert ", "->", "::", "instanceof", "Exact(", "System.out", "Object",
         "double", "float", "var ", "@", "static {", "equals", "hashCode", "toString", "\" +", "+ \"",
@@ -55,8 +56,13 @@ public final class Face {
                 }
                 found.add(m.getReturnType().getSimpleName() + " " + m.getName() + "(" + String.join(",", types) + ")");
                 names.add(m.getName());
+                // part and row alone say what they throw.
+                boolean throwing = m.getName().equals("part") || m.getName().equals("row");
+                String says = Arrays.toString(m.getExceptionTypes());
+                due(m + " says that it throws " + says, says.equals(throwing ? THROWN : "[]"));
             }
         }
+        due("NONE is -1", BoltRow.NONE == -1);
         List<String> want = new ArrayList<>(Arrays.asList(FACE));
         Collections.sort(want);
         Collections.sort(found);
